@@ -20,7 +20,7 @@ public final class RivalSorry {
     private static final int LAST_DAY = 9999, MOST_BYTES = 130, MOST_ACTS = 24;
     private static final int LAST_MILE = 9, LAST_MILE_BEFORE_SANDS = 4, MILES_A_DAY = 3;
     private static final int PLAN_DAYS = 3, NOTHING_DONE = 99, MOST_DRAWS = 60, MOST_SEED = 999999;
-    private static final int SHEETS = 4, LANES = 4, MOST_ITEMS = 24, MOST_PAIRS = 10;
+    private static final int LANES = 4, MOST_ITEMS = 24, MOST_PAIRS = 10;
     private static final int NO_REFUSAL = 0;
 
     private final Tape tape = new Tape();
@@ -382,7 +382,7 @@ public final class RivalSorry {
     }
 
     private Sheet sheetAt(int sheet) {
-        return sheet < 0 || sheet >= SHEETS || sheet >= sheets.length ? null : sheets[sheet];
+        return sheet < 0 || sheet >= sheets.length ? null : sheets[sheet];
     }
 
     private static boolean isLane(int lane) {
@@ -529,14 +529,16 @@ public final class RivalSorry {
     }
 
     private static void drawDays(Coast on, int n, int seed) {
-        if (on.people() < 1 || on.wrongs() < 1) {
+        int people = on.people();
+        int wrongs = on.wrongs();
+        if (people < 1 || wrongs < 1) {
             return;
         }
         long x = seed;
         for (int draw = 0; draw < n; draw++) {
             x = 16807L * x % 2147483647L;
-            int wrong = (int) (x % on.wrongs());
-            int person = (int) (x / 16 % on.people());
+            int wrong = (int) (x % wrongs);
+            int person = (int) (x / 16 % people);
             if (on.mayCarry(wrong, person)) {
                 on.deliver(wrong, person);
             } else {
@@ -953,7 +955,7 @@ public final class RivalSorry {
         private int acts;
 
         Past() {
-            for (int i = 0; i < MOST_ACTS; i++) {
+            for (int i = 0; i < ring.length; i++) {
                 ring[i] = new Coast();
             }
         }

@@ -120,9 +120,10 @@ public final class ActsTest {
         DUE.is("no such", x.sin(0, 2, 1), RivalSorry.BAD);
         DUE.is("no such", x.sin(-1, 1, 1), RivalSorry.BAD);
         DUE.is("no such", x.sin(0, -1, 1), RivalSorry.BAD);
+        int[] weights = {0, 1, 9, 2, 8, 3, 5, 9};
         for (int w = 1; w < 8; w++) {
-            DUE.is("a wrong more", x.sin(1, 0, w), w);
-            DUE.is("its weight", x.wrong(w, 2), w);
+            DUE.is("a wrong more", x.sin(1, 0, weights[w]), w);
+            DUE.is("its weight", x.wrong(w, 2), weights[w]);
             DUE.is("who did it", x.wrong(w, 0), 1);
             DUE.is("to whom", x.wrong(w, 1), 0);
             DUE.is("it is open", x.wrong(w, 3), RivalSorry.NONE);

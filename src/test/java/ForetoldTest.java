@@ -18,6 +18,7 @@ public final class ForetoldTest {
         planRefuses();
         gusts();
         decades();
+        decadesDrawByDraw();
         nothingChanges();
         DUE.end();
     }
@@ -253,9 +254,8 @@ public final class ForetoldTest {
     }
 
     private static void decades() {
-        // Seed 1: X is 16807 (wrong 1 of 2, person 1050 by 3: 0), then 282475249 (wrong 1, person 17654703 by 3: 0).
         RivalSorry x = Due.on("r3c9012,c9020,c003-;025,212;0");
-        DUE.is("two draws by one who may: to 1, by 0", x.decades(1, 1, 0), 1);
+        DUE.is("a draw of wrong 1 by 0", x.decades(1, 1, 0), 1);
         DUE.is("who is won by it", x.decades(1, 1, 1), 2);
         DUE.is("no draw", x.decades(0, 1, 0), 0);
         DUE.is("no draw, won", x.decades(0, 1, 1), 0);
@@ -271,6 +271,20 @@ public final class ForetoldTest {
         DUE.is("no coast", new RivalSorry().decades(1, 1, 0), RivalSorry.NOT);
         DUE.is("no coast, bad", new RivalSorry().decades(61, 1, 0), RivalSorry.BAD);
         DUE.holds("the greatest", x.decades(60, 999999, 0) >= 1);
+    }
+
+    /** By seed 1 X is 16807, 282475249, 1622650073, 984943658: of 2 wrongs and 3 people 1 by 0, 1 by 0, 1 by 2, 0 by 1. */
+    private static void decadesDrawByDraw() {
+        int[][] forgiven = {{0, 1, 1, 1, 1}, {0, 0, 1, 1, 2}};
+        int[][] won = {{0, 2, 2, 2, 2}, {0, 0, 2, 2, 3}};
+        for (int day = 0; day < 2; day++) {
+            // Over the sands either way, so a draw tells which day it is.
+            RivalSorry x = Due.on("r3c9052,c9042,c000-;201,211;" + day);
+            for (int n = 0; n <= 4; n++) {
+                DUE.is("forgiven by " + n + " draws from day " + day, x.decades(n, 1, 0), forgiven[day][n]);
+                DUE.is("won by " + n + " draws from day " + day, x.decades(n, 1, 1), won[day][n]);
+            }
+        }
     }
 
     private static void nothingChanges() {
