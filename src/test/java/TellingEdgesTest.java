@@ -33,6 +33,7 @@ public final class TellingEdgesTest {
         wrong();
         countEmpty();
         countFull();
+        countCarried();
         countSets();
         countRefuses();
         DUE.end();
@@ -314,6 +315,7 @@ public final class TellingEdgesTest {
         x.image(1);
         x.sheet(2, 1, 7);
         DUE.is("acts", x.count(7), 5);
+        x.decades(60, 1, 0);
         DUE.is("the same tape", Due.read(x, tape), 3);
         DUE.same("all as at first", Due.wholeOf(x), first);
         DUE.is("nothing can be undone", x.undo(), NONE);
@@ -446,6 +448,19 @@ public final class TellingEdgesTest {
         for (int what = 0; what <= 8; what++) {
             DUE.is("count(" + what + ") at last", x.count(what), last[what]);
         }
+    }
+
+    private static void countCarried() {
+        DUE.by("4 CARRIED by all together");
+        RivalSorry x = Due.on("r6c9001,c000-,c002-,c003-,c004-,c9011;129,139,149;0");
+        DUE.is("by the first", x.carry(0, 0), 1);
+        DUE.is("carried", x.count(4), 1);
+        DUE.is("by the last", x.carry(1, 5), 1);
+        DUE.is("carried", x.count(4), 2);
+        DUE.is("by the last again", x.carry(2, 5), 1);
+        DUE.is("carried", x.count(4), 3);
+        DUE.is("undone", x.undo(), 2);
+        DUE.is("carried", x.count(4), 2);
     }
 
     private static void countSets() {
