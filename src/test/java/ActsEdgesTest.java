@@ -18,6 +18,7 @@ public final class ActsEdgesTest {
         saidBySkill();
         saidByBrother();
         saidByRider();
+        cutTowardsZero();
         stings();
         need();
         comesByNeed();
@@ -172,6 +173,16 @@ public final class ActsEdgesTest {
             int miles = cell % 10;
             DUE.is("rider of " + skill + " by " + miles, saidBy("r" + skill, miles), skill + 2 + half[miles]);
         }
+    }
+
+    private static void cutTowardsZero() {
+        DUE.by("What is divided is cut towards 0.");
+        DUE.is("half of skill 1", saidBy("f1", 9), 0);
+        DUE.is("half of skill 9", saidBy("f9", 9), 4);
+        DUE.is("half of 1 mile", saidBy("r0", 1), 2);
+        DUE.is("half of 9 miles", saidBy("r0", 9), 6);
+        DUE.is("half of hard 1", Due.on("r2c000-,c010-;011;0").wrong(0, 4), 1);
+        DUE.is("half of hard 9", Due.on("r2c000-,c090-;011;0").wrong(0, 4), 5);
     }
 
     private static void stings() {

@@ -278,10 +278,11 @@ public final class ForetoldEdgesTest {
     }
 
     private static void chainRound() {
-        DUE.by("how many come ahead of those that come round");
+        DUE.by("CHAIN of one: one WANTS to be another one, who WANTS to be another one ..");
         RivalSorry two = Due.on("r2c0001,c0000;015;0");
         chains(two, 0, 0, 2);
         chains(two, 1, 0, 2);
+        DUE.by("how many come ahead of those that come round");
         RivalSorry all = Due.on("r6c0005,c0000,c0001,c0002,c0003,c0004;015;0");
         for (int p = 0; p < 6; p++) {
             chains(all, p, 0, 6);
@@ -403,6 +404,8 @@ public final class ForetoldEdgesTest {
         plans(Due.on("r6c000-,c001-,c002-,c003-,c004-,c9041;239,239,239,239,239,239,239,129;0"), 1, 75);
         plans(Due.on("r6c000-,c001-,c002-,c003-,c004-,c9041;239,239,239,239,239,129,129,139;0"), 3, 55, 65, 75);
         plans(Due.on("r6c000-,c001-,c002-,c003-,c9041,c9041;239,239,239,239,149,159,239,239;0"), 2, 45, 54);
+        plans(Due.on("r6c000-,c001-,c002-,c003-,c004-,c5041;239,239,239,239,125,239,239,239;0"), 1, 45);
+        plans(Due.on("r3c5001,c000-,c000-;215,129;0"), 0, 10);
         plans(Due.on("r4c000-,c9010,c9020,c003-;039,039;0"), 1, 1);
         plans(Due.on("r4c000-,c8010,c9020,c003-;039,039;0"), 1, 2);
         // A carry in vain comes first where there is a day for it.
@@ -497,9 +500,18 @@ public final class ForetoldEdgesTest {
         for (int[] c : bad) {
             DUE.is("gusts(" + c[0] + ", " + c[1] + ", " + c[2] + ", " + c[3] + ")", x.gusts(c[0], c[1], c[2], c[3]), BAD);
         }
+        DUE.by("(he must be one who MAY)");
         DUE.is("to oneself", x.gusts(1, 1, 5, 0), NOT);
+        DUE.is("to oneself, below", x.gusts(1, 1, 5, 1), NOT);
+        DUE.is("to oneself, no gust", x.gusts(1, 1, 0, 0), NOT);
         DUE.is("wants nobody", x.gusts(0, 2, 5, 1), NOT);
         DUE.is("no coast", new RivalSorry().gusts(0, 0, 5, 0), BAD);
+        DUE.is("forgiven", x.carry(0, 1), 1);
+        DUE.is("not open", x.gusts(0, 1, 5, 0), NOT);
+        RivalSorry odd = Due.on("r3c000-,c5040,c005-;025;1");
+        DUE.is("over the sands on an odd day", odd.gusts(0, 1, 5, 0), NOT);
+        odd.pass();
+        DUE.is("over the sands on an even day", odd.gusts(0, 1, 5, 1), 8);
     }
 
     private static void decadesNone() {
@@ -533,8 +545,8 @@ public final class ForetoldEdgesTest {
     }
 
     private static void decadesDraws() {
-        DUE.by("each time X becomes the rest of 16807 times X by 2147483647; the WRONG that X leaves by how many there are is CARRIED "
-            + "by the PERSON that X by 16 (cut) leaves by how many there are, who MAY");
+        DUE.by("DECADES by a SEED (X at first), n times: each time X becomes the rest of 16807 times X by 2147483647; "
+            + "the WRONG that X leaves by how many there are is CARRIED by the PERSON that X by 16 (cut) leaves by how many there are, who MAY");
         int[] seeds = {1, 2, 7, 999998, 999999};
         // WRONG and PERSON of four draws each: X by seed 1 is 16807, 282475249, 1622650073, 984943658.
         int[][] drawn = {{7, 0, 1, 3, 1, 5, 2, 4}, {6, 0, 2, 0, 3, 3, 4, 3}, {1, 3, 7, 3, 4, 5, 1, 2}, {1, 1, 7, 0, 1, 4, 5, 2},

@@ -467,7 +467,7 @@ public final class SheetsEdgesTest {
     }
 
     private static void kindsTry() {
-        DUE.by("of like ones the least");
+        DUE.by("SKILL, CARRIED as they are; TRY likewise.");
         RivalSorry x = Due.on("r3c000-,c1000,c090-;029;0");
         x.carry(0, 1);
         // By 4 miles a rider alone; a brother of CARRIED 1 and an adder say 3, a rider 3 by less than 2 miles.

@@ -10,11 +10,14 @@ public final class TellingEdgesTest {
 
     public static void main(String[] args) {
         newObject();
+        numbersFromZero();
         tapeIsFull();
         feed();
         nothingBehind();
         countOfPeople();
+        asTheyCome();
         figuresOfPeople();
+        houses();
         wants();
         letters();
         noBlanks();
@@ -80,6 +83,18 @@ public final class TellingEdgesTest {
         }
         DUE.is("undo()", x.undo(), NONE);
         DUE.is("the tape is empty", x.coast(), -100);
+    }
+
+    private static void numbersFromZero() {
+        DUE.by("Numbers go from 0 on, unless told.");
+        RivalSorry x = Due.on(GREATEST);
+        for (int n = -1; n <= 9; n++) {
+            DUE.holds("person " + n, (x.person(n, 1) >= 0) == (n >= 0 && n < 6));
+            DUE.holds("wrong " + n, (x.wrong(n, 2) >= 0) == (n >= 0 && n < 8));
+            DUE.holds("image " + n, (x.image(n) >= 0) == (n == 0 || n == 1));
+            DUE.holds("sheet " + n, (x.sheet(n, 0, 1) >= 0) == (n >= 0 && n < 4));
+            DUE.holds("lane " + n, (x.sheet(0, n, 1) >= 0) == (n >= 0 && n < 4));
+        }
     }
 
     private static void tapeIsFull() {
@@ -148,6 +163,31 @@ public final class TellingEdgesTest {
             all.append(",c000-");
         }
         return all.toString();
+    }
+
+    private static void asTheyCome() {
+        DUE.by("so many PEOPLE (0, 1, .. as they come) with , between, each a letter");
+        RivalSorry x = Due.on("r6c100-,a200-,f300-,b400-,r500-,c600-;011,102,203,304,405,506,017,128;0");
+        int[] kinds = {1, 2, 3, 4, 5, 1};
+        for (int p = 0; p < 6; p++) {
+            DUE.is("kind of " + p, x.person(p, 0), kinds[p]);
+            DUE.is("skill of " + p, x.person(p, 1), p + 1);
+        }
+        for (int w = 0; w < 8; w++) {
+            DUE.is("weight of " + w, x.wrong(w, 2), w + 1);
+        }
+    }
+
+    private static void houses() {
+        DUE.by("HOUSES are at MILES 0 to 9 along the coast.");
+        RivalSorry x = Due.on("r2c000-,c009-;011;0");
+        DUE.is("the first mile", x.person(0, 3), 0);
+        DUE.is("one is at home", x.person(0, 4), 0);
+        DUE.is("the last mile", x.person(1, 3), 9);
+        DUE.is("one is at home", x.person(1, 4), 9);
+        fault("r2c00:-,c009-;011;0", 5);
+        fault("r2c00/-,c009-;011;0", 5);
+        fault("r2c0010-,c009-;011;0", 6);
     }
 
     private static void figuresOfPeople() {
