@@ -218,6 +218,7 @@ public final class ForetoldEdgesTest {
         matches(Due.on("r4c000-,c9010,c8020,c023-;035;0"), 1, 1);
         // A later wrong wins nobody, so the earlier one has nobody.
         matches(Due.on("r3c000-,c9010,c003-;025,026;0"), 1, NONE, 1);
+        matches(Due.on("r4c000-,c5000,c5000,c000-;031,035,032;0"), 2, NONE, 1, 2);
         RivalSorry x = Due.on("r5c000-,c9010,c8020,c003-,c9000;035,031;0");
         DUE.is("wins", x.carry(1, 4), 2);
         matches(x, 1, 1, NONE);
@@ -231,6 +232,8 @@ public final class ForetoldEdgesTest {
         // The lesser one gives way to who can do no other.
         matches(Due.on("r4c000-,c9010,c5010,c001-;035,039;0"), 2, 2, 1);
         matches(Due.on("r4c000-,c9010,c4010,c001-;035,039;0"), 1, NONE, 1);
+        // The last two of eight.
+        matches(Due.on("r4c000-,c9010,c8010,c001-;309,309,309,309,309,309,038,039;0"), 2, NONE, NONE, NONE, NONE, NONE, NONE, 2, 1);
     }
 
     private static void matchFirst() {
@@ -238,6 +241,7 @@ public final class ForetoldEdgesTest {
         matches(Due.on("r5c000-,c5010,c5020,c5030,c004-;045,045;0"), 2, 1, 2);
         matches(Due.on("r4c003-,c5030,c5020,c001-;035,015,025;0"), 2, 1, 2, NONE);
         matches(Due.on("r3c9001,c000-,c9001;129,109;0"), 2, 0, 2);
+        matches(Due.on("r4c9001,c000-,c9001,c003-;139;0"), 1, 0);
         // Nobody for the first wrong is behind somebody for it.
         matches(Due.on("r3c000-,c5010,c003-;025,025;0"), 1, 1, NONE);
     }
@@ -429,6 +433,8 @@ public final class ForetoldEdgesTest {
         plans(Due.on("r3c000-,c5010,c008-;025;1"), 0, 99);
         plans(Due.on("r3c000-,c5010,c008-;025;1"), 1, 99, 1);
         plans(Due.on("r4c000-,c5040,c005-,c004-;025,035;0"), 2, 1, 99, 11);
+        // A brother would say enough, had he gone over the sands on the odd day.
+        plans(Due.on("r3c000-,b0040,c005-;023;1"), 0, 99, 1);
         // Who won wants nobody, so the wrong that wins is the last.
         plans(Due.on("r3c000-,c9010,c003-;021,029;0"), 2, 11, 1);
         // A brother says more each time.
