@@ -22,7 +22,7 @@ public final class RefusalsTest {
         x.lend(5, 0);
         x.harden(0, 7);
         lay(x, 0, 1, 1, 2, 3);
-        lay(x, 1, 2, 4, 5);
+        lay(x, 1, 2, 4, 5, 10, 3, -1, 3);
         lay(x, 3, 1, 6, 7);
         x.feed('r');
         x.feed('2');
@@ -39,7 +39,7 @@ public final class RefusalsTest {
     /** All that can be told of such an object, and that only by changing it. */
     private static String deepOf(RivalSorry x) {
         StringBuilder all = new StringBuilder(Due.wholeOf(x));
-        all.append(" | ").append(x.drop(2)).append(itemsOf(x, 0, 1, 3)).append(itemsOf(x, 3, 1, 2)).append(itemsOf(x, 1, 2, 2));
+        all.append(" | ").append(x.drop(2)).append(itemsOf(x, 0, 1, 3)).append(itemsOf(x, 3, 1, 2)).append(itemsOf(x, 1, 2, 6));
         all.append(" | ").append(x.drop(0)).append(' ').append(x.drop(1)).append(' ').append(x.drop(3)).append(" |");
         for (int left = x.undo(); left >= 0; left = x.undo()) {
             all.append(' ').append(left).append(' ').append(x.count(3)).append(' ').append(x.count(2));
@@ -164,6 +164,10 @@ public final class RefusalsTest {
             refused(same, NULL, name, 0, 2, 1, 0, 1, 0);
             refused(same, CAST, name, 0, 0, 2, 0, 1, 0);
             refused(same, INDEX, name, 0, 0, 1, 2, 1, 0);
+            refused(same, BAD, name, 0, 0, 1, 0, 1, 2);
+            refused(same, NOT, name, 0, 1, 2, 2, 1, 0);
+            refused(same, NOT, name, 0, 1, 2, 4, 1, 1);
+            refused(same, NOT, name, 0, 1, 2, 0, 2, 0);
         }
     }
 
